@@ -4089,7 +4089,8 @@ public final class RefactorHouse {
 
     /** The programs of the steps that are kept: so many done, so many undone. */
     private static final class History {
-        private final byte[][] texts = new byte[STEPS + 1][FILES * FILE_BYTES];
+        /** Rows are made when they are needed first, and used again. */
+        private final byte[][] texts = new byte[STEPS + 1][];
         private final int[][] sizes = new int[STEPS + 1][FILES];
         /** The row of the oldest program. */
         private int oldest;
@@ -4115,6 +4116,9 @@ public final class RefactorHouse {
 
         private void keep(int steps, Prog p) {
             int row = (oldest + steps) % (STEPS + 1);
+            if (texts[row] == null) {
+                texts[row] = new byte[FILES * FILE_BYTES];
+            }
             for (int f = 0; f < FILES; f++) {
                 System.arraycopy(p.text[f], 0, texts[row], f * FILE_BYTES, p.size[f]);
                 sizes[row][f] = p.size[f];
@@ -4124,7 +4128,7 @@ public final class RefactorHouse {
         /** Gives a program the texts behind so many steps. */
         void bring(int steps, Prog p) {
             int row = (oldest + steps) % (STEPS + 1);
-            for (int f = 0; f < FILES; f++) {
+            for (int f = 0; f < FILES && texts[row] != null; f++) {
                 System.arraycopy(texts[row], f * FILE_BYTES, p.text[f], 0, sizes[row][f]);
                 p.size[f] = sizes[row][f];
             }

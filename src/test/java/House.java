@@ -23,6 +23,32 @@ public final class House {
         }
     }
 
+    /** A text without its marks (@), and the bytes at which they stood. */
+    static String bare(String marked) {
+        return marked.replace("@", "");
+    }
+
+    static int[] marks(String marked) {
+        int n = 0;
+        int[] at = new int[marked.length()];
+        for (int i = 0; i < marked.length(); i++) {
+            if (marked.charAt(i) == '@') {
+                at[n] = i - n;
+                n++;
+            }
+        }
+        return java.util.Arrays.copyOf(at, n);
+    }
+
+    /** So many times the same text. */
+    static String times(int n, String s) {
+        StringBuilder b = new StringBuilder();
+        for (int i = 0; i < n; i++) {
+            b.append(s);
+        }
+        return b.toString();
+    }
+
     /** Ends the test. */
     static void end(String name) {
         System.out.println(name + ": " + asked + " answers, " + wrong + " not as due");
