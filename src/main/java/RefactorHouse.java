@@ -29,6 +29,8 @@ public final class RefactorHouse {
     private static final int NUMBERS = 300;
     private static final int PAIRS = 1000;
     private static final int ALL_TOKENS = FILES * (FILE_TOKENS + 1) + 4;
+    /** Beside the FAULTS 1 to 3: a FILE has too many bytes. */
+    private static final int TOO_LONG = 9;
     /** A bound for loops that end by themselves much earlier. */
     private static final int MANY = 1000000;
 
@@ -203,7 +205,7 @@ public final class RefactorHouse {
         spare.copyTexts(now);
         System.arraycopy(tape, 0, spare.text[f], 0, bytes);
         spare.size[f] = bytes;
-        int fault = readSpare(f, CLASSES - now.classesBeside(f));
+        int fault = reader.readProgram(spare, f, CLASSES - now.classesBeside(f));
         if (fault != 0) {
             place = reader.faultPlace;
             return -10 - fault;
@@ -212,16 +214,6 @@ public final class RefactorHouse {
         history.forget();
         hasRun = false;
         return now.tokensOf(f);
-    }
-
-    /** Reads the spare program; FILE f alone may have a FAULT, or more classes than there is room for. */
-    private int readSpare(int f, int room) {
-        reader.start(spare);
-        int fault = 0;
-        for (int k = 0; k < FILES && fault == 0; k++) {
-            fault = reader.readFile(spare, k, k == f ? room : CLASSES);
-        }
-        return fault;
     }
 
     /** The spare program becomes the one of the house: what was told of the old one is no more. */
@@ -385,7 +377,7 @@ public final class RefactorHouse {
             return false;
         }
         history.bring(history.done - 1, spare);
-        if (readSpare(0, CLASSES) != 0) {
+        if (reader.readProgram(spare, 0, CLASSES) != 0) {
             return false;
         }
         judge.look(spare);
@@ -457,15 +449,12 @@ public final class RefactorHouse {
         tapeSize = 0;
         change.open(now, tape, bytes);
         int broken = change.conditions(sort, a, b);
-        return settled(broken);
-    }
-
-    /** What is told of a change whose own conditions are looked at: now those of THE NEW PROGRAM are. */
-    private int settled(int broken) {
-        int told = broken != 0 ? broken : change.soundness(reader, judge, spare);
-        sound = told == 0;
+        if (broken == 0) {
+            broken = change.soundness(reader, judge, spare);
+        }
+        sound = broken == 0;
         place = sound ? NO : change.where;
-        return told;
+        return broken;
     }
 
     public int edits() {
@@ -493,7 +482,7 @@ public final class RefactorHouse {
             return NO;
         }
         edits.make(spare);
-        if (readSpare(0, CLASSES) != 0) {
+        if (reader.readProgram(spare, 0, CLASSES) != 0) {
             return NO;
         }
         history.step(now, spare);
@@ -512,7 +501,7 @@ public final class RefactorHouse {
     /** The program becomes that behind so many steps. */
     private int goTo(int steps) {
         history.bring(steps, spare);
-        if (readSpare(0, CLASSES) != 0) {
+        if (reader.readProgram(spare, 0, CLASSES) != 0) {
             return NO;
         }
         history.stand(steps);
@@ -559,7 +548,10 @@ public final class RefactorHouse {
         }
         change.open(now, tape, 0);
         finder.tell(edits);
-        return settled(0);
+        int broken = change.soundness(reader, judge, spare);
+        sound = broken == 0;
+        place = sound ? NO : change.where;
+        return broken;
     }
 
     public int alike(int n) {
@@ -587,7 +579,7 @@ public final class RefactorHouse {
     }
 
     private static boolean isLetterOrDigit(int b) {
-        return isLetter(b) || isDigit(b);
+        return b >= 'a' && b <= 'z' || b >= 'A' && b <= 'Z' || b >= '0' && b <= '9';
     }
 
     /** The code of the WORD that so many bytes from i on are, or NAME. */
@@ -637,7 +629,6 @@ public final class RefactorHouse {
             value = 0;
             type = T_FAULTY;
             args = 0;
-            left = null;
             right = null;
             arg = null;
             next = null;
@@ -800,38 +791,6 @@ public final class RefactorHouse {
                 System.arraycopy(from.text[f], 0, text[f], 0, from.size[f]);
                 size[f] = from.size[f];
             }
-        }
-
-        // What stands in the rows is made once and used again by every program that is read here.
-
-        Exp newExp(int kind) {
-            int i = Math.min(expCount, exps.length - 1);
-            if (exps[i] == null) {
-                exps[i] = new Exp();
-            }
-            exps[i].reset(i, kind);
-            expCount = i + 1;
-            return exps[i];
-        }
-
-        Stat newStat(Stat up) {
-            int i = Math.min(statCount, stats.length - 1);
-            if (stats[i] == null) {
-                stats[i] = new Stat();
-            }
-            stats[i].reset(i, up);
-            statCount = i + 1;
-            return stats[i];
-        }
-
-        Decl newDecl(int kind, int tok) {
-            int i = Math.min(declCount, decls.length - 1);
-            if (decls[i] == null) {
-                decls[i] = new Decl();
-            }
-            decls[i].reset(i, kind, tok);
-            declCount = i + 1;
-            return decls[i];
         }
 
         int codeAt(int t) {
@@ -1042,15 +1001,20 @@ public final class RefactorHouse {
         }
 
         boolean fits(int type, int wanted) {
-            if (type == wanted) {
-                return true;
+            int c = type - T_OBJECT;
+            int w = wanted - T_OBJECT;
+            if (type == wanted || w < 0 || w >= classCount) {
+                return type == wanted;
             }
-            Decl c = classOf(wanted);
-            if (c == null) {
-                return false;
+            if (c < 0 || c >= classCount) {
+                return type == T_NULL;
             }
-            Decl own = classOf(type);
-            return own == null ? type == T_NULL : own.isHeirOf(c);
+            for (Decl a = classes[c]; a != null; a = a.above) {
+                if (a == classes[w]) {
+                    return true;
+                }
+            }
+            return false;
         }
 
         /** Whether two methods have the same NAME and params' types; a type that is no class is like none. */
@@ -1058,10 +1022,12 @@ public final class RefactorHouse {
             if (sym[m.tok] != sym[n.tok] || m.params != n.params) {
                 return false;
             }
-            for (int i = 0; i < m.params; i++) {
-                Decl a = param(m, i);
-                Decl b = param(n, i);
-                if (a == null || b == null || a.type != b.type || a.type == T_UNKNOWN) {
+            for (int i = 1; i <= m.params; i++) {
+                if (m.index + i >= declCount || n.index + i >= declCount) {
+                    return false;
+                }
+                int type = decls[m.index + i].type;
+                if (type != decls[n.index + i].type || type == T_UNKNOWN) {
                     return false;
                 }
             }
@@ -1112,23 +1078,30 @@ public final class RefactorHouse {
         /** The exp of a RECIPE that is looked for. */
         Exp pattern;
 
-        void start(Prog prog) {
+        /** Begins anew: what was read of the program is no more. */
+        private void start(Prog prog) {
             p = prog;
             p.clear();
             Arrays.fill(buckets, 0);
+            fault = 0;
         }
 
-        /** Reads FILE f of the program; 0 or its FAULT. */
-        int readFile(Prog prog, int f, int room) {
-            p = prog;
+        /** Reads all FILES; 0 or the FAULT. FILE f has room for so many classes. */
+        int readProgram(Prog prog, int f, int room) {
+            start(prog);
             inRecipe = false;
             mayType = false;
-            open(f, FILE_TOKENS);
-            for (int n = 0; n < MANY && peek() == W_CLASS; n++) {
-                readClass(n >= room);
-            }
-            if (peek() != END) {
-                reject();
+            for (int k = 0; k < FILES && fault == 0; k++) {
+                if (p.size[k] > FILE_BYTES) {
+                    fault = TOO_LONG;
+                    faultPlace = k * FILE_PLACES;
+                    return fault;
+                }
+                open(k, FILE_TOKENS);
+                for (int n = 0; n < MANY && peek() == W_CLASS; n++) {
+                    readClass(k == f && n >= room);
+                }
+                want(peek() == END);
             }
             return fault;
         }
@@ -1140,12 +1113,10 @@ public final class RefactorHouse {
             mayType = true;
             open(0, RECIPE_TOKENS);
             pattern = exp(0);
-            want(ARROW);
+            want(peek() == ARROW);
             mayType = false;
             exp(0);
-            if (peek() != END) {
-                reject();
-            }
+            want(peek() == END);
             return fault;
         }
 
@@ -1305,10 +1276,6 @@ public final class RefactorHouse {
             return at < p.tokens ? p.code[at] : tail;
         }
 
-        private int peekBehind() {
-            return fault == 0 && at + 1 < p.tokens ? p.code[at + 1] : NONE;
-        }
-
         private void fail(int number) {
             if (fault == 0) {
                 fault = number;
@@ -1316,42 +1283,30 @@ public final class RefactorHouse {
             }
         }
 
-        private void reject() {
-            fail(peek() == WRONG ? 1 : 2);
-        }
-
-        private void take() {
-            if (peek() == END || peek() == WRONG) {
-                reject();
-            } else if (at - begin >= limit) {
+        /** Goes on behind the token at hand if it fits there. */
+        private void want(boolean fits) {
+            boolean isToken = at < p.tokens;
+            if (!isToken && tail == WRONG) {
+                fail(1);
+            } else if (!fits) {
+                fail(2);
+            } else if (isToken && at - begin >= limit) {
                 fail(3);
-            } else if (fault == 0) {
+            } else if (isToken && fault == 0) {
                 at++;
             }
         }
 
-        private void want(int wanted) {
-            if (peek() == wanted) {
-                take();
-            } else {
-                reject();
-            }
-        }
-
-        private void takeName(boolean tooMuch) {
+        private void wantName(boolean tooMuch) {
             if (peek() == NAME && tooMuch) {
                 fail(3);
             }
-            want(NAME);
+            want(peek() == NAME);
         }
 
-        private void takeType() {
+        private boolean isTypeAtHand() {
             int c = peek();
-            if (c == W_INT || c == W_BOOL || c == NAME) {
-                take();
-            } else {
-                reject();
-            }
+            return c == W_INT || c == W_BOOL || c == NAME;
         }
 
         /** What is at hand now stands within so many others. */
@@ -1364,24 +1319,34 @@ public final class RefactorHouse {
 
         // Classes and members.
 
+        private Decl newDecl(int kind, int tok) {
+            int i = Math.min(p.declCount, p.decls.length - 1);
+            if (p.decls[i] == null) {
+                p.decls[i] = new Decl();
+            }
+            p.decls[i].reset(i, kind, tok);
+            p.declCount = i + 1;
+            return p.decls[i];
+        }
+
         private void readClass(boolean tooMuch) {
             int first = at;
-            take();
+            want(true);
             int tok = at;
-            takeName(tooMuch);
+            wantName(tooMuch);
             if (fault != 0 || p.classCount >= CLASSES) {
                 return;
             }
-            Decl c = p.newDecl(D_CLASS, tok);
+            Decl c = newDecl(D_CLASS, tok);
             c.number = p.classCount;
             p.classes[p.classCount] = c;
             p.classCount++;
             if (peek() == W_EXTENDS) {
-                take();
+                want(true);
                 c.typeTok = at;
-                takeName(false);
+                wantName(false);
             }
-            want(OPEN);
+            want(peek() == OPEN);
             Decl last = null;
             for (int n = 0; n < MANY && fault == 0 && peek() != SHUT; n++) {
                 Decl m = readMember(c, n >= MEMBERS);
@@ -1392,7 +1357,7 @@ public final class RefactorHouse {
                 }
                 last = m;
             }
-            want(SHUT);
+            want(peek() == SHUT);
             c.first = first;
             c.last = at - 1;
         }
@@ -1401,19 +1366,15 @@ public final class RefactorHouse {
             int first = at;
             boolean isStatic = peek() == W_STATIC;
             if (isStatic) {
-                take();
+                want(true);
             }
             int typeTok = at;
             boolean isVoid = peek() == W_VOID;
-            if (isVoid) {
-                take();
-            } else {
-                takeType();
-            }
+            want(isVoid || isTypeAtHand());
             int tok = at;
-            takeName(tooMuch);
+            wantName(tooMuch);
             boolean isMethod = isVoid || peek() == LEFT;
-            Decl m = p.newDecl(isMethod ? D_METHOD : D_FIELD, tok);
+            Decl m = newDecl(isMethod ? D_METHOD : D_FIELD, tok);
             m.owner = owner;
             m.typeTok = typeTok;
             m.isStatic = isStatic;
@@ -1425,10 +1386,10 @@ public final class RefactorHouse {
                 m.stat.last = at - 1;
             } else {
                 if (peek() == GETS) {
-                    take();
+                    want(true);
                     m.exp = exp(0);
                 }
-                want(SEMI);
+                want(peek() == SEMI);
             }
             m.first = first;
             m.last = at - 1;
@@ -1437,31 +1398,37 @@ public final class RefactorHouse {
         }
 
         private void readParams(Decl m) {
-            want(LEFT);
+            want(peek() == LEFT);
             boolean more = peek() != RIGHT;
             for (int n = 0; n < MANY && more && fault == 0; n++) {
                 int typeTok = at;
-                takeType();
+                want(isTypeAtHand());
                 int tok = at;
-                takeName(n >= PARAMS);
-                Decl d = p.newDecl(D_PARAM, tok);
+                wantName(n >= PARAMS);
+                Decl d = newDecl(D_PARAM, tok);
                 d.owner = m;
                 d.typeTok = typeTok;
                 m.params++;
                 more = peek() == COMMA;
                 if (more) {
-                    take();
+                    want(true);
                 }
             }
-            want(RIGHT);
+            want(peek() == RIGHT);
         }
 
         // Statements.
 
         private Stat newStat(Stat up) {
-            Stat s = p.newStat(up);
+            int i = Math.min(p.statCount, p.stats.length - 1);
+            if (p.stats[i] == null) {
+                p.stats[i] = new Stat();
+            }
+            Stat s = p.stats[i];
+            s.reset(i, up);
             s.first = at;
             s.member = member;
+            p.statCount = i + 1;
             return s;
         }
 
@@ -1479,20 +1446,26 @@ public final class RefactorHouse {
                     break;
                 case W_RETURN:
                     s.kind = S_RETURN;
-                    take();
-                    if (peek() != SEMI) {
-                        s.exp = exp(depth);
-                    }
-                    want(SEMI);
+                    want(true);
+                    s.exp = peek() == SEMI ? null : exp(depth);
+                    want(peek() == SEMI);
                     break;
                 case W_PRINT:
                     s.kind = S_PRINT;
-                    take();
+                    want(true);
                     s.exp = exp(depth);
-                    want(SEMI);
+                    want(peek() == SEMI);
                     break;
                 default:
-                    plain(s, depth);
+                    begin(s);
+                    s.exp = exp(depth);
+                    if (s.kind == S_EXP && s.exp != null && peek() == GETS) {
+                        s.kind = S_GETS;
+                        s.exp.isTarget = true;
+                        want(true);
+                        s.value = exp(depth);
+                    }
+                    want(peek() == SEMI);
                     break;
             }
             s.last = at - 1;
@@ -1500,9 +1473,28 @@ public final class RefactorHouse {
             return s;
         }
 
+        /** What stands in front of the exp of a local; nothing in front of an exp alone. */
+        private void begin(Stat s) {
+            int c = peek();
+            boolean isName = c == NAME && at + 1 < p.tokens && p.code[at + 1] == NAME;
+            if (c != W_INT && c != W_BOOL && !isName) {
+                s.kind = S_EXP;
+                return;
+            }
+            s.kind = S_LOCAL;
+            int typeTok = at;
+            want(true);
+            s.local = newDecl(D_LOCAL, at);
+            s.local.owner = member;
+            s.local.typeTok = typeTok;
+            s.local.stat = s;
+            wantName(false);
+            want(peek() == GETS);
+        }
+
         private void block(Stat s, int depth) {
             s.kind = S_BLOCK;
-            want(OPEN);
+            want(peek() == OPEN);
             enter(depth + 1);
             Stat last = null;
             for (int n = 0; n < MANY && fault == 0 && peek() != SHUT; n++) {
@@ -1515,53 +1507,24 @@ public final class RefactorHouse {
                 }
                 last = inner;
             }
-            want(SHUT);
+            want(peek() == SHUT);
         }
 
         private void branch(Stat s, int depth) {
             boolean isIf = peek() == W_IF;
             s.kind = isIf ? S_IF : S_WHILE;
-            take();
-            want(LEFT);
+            want(true);
+            want(peek() == LEFT);
             enter(depth + 1);
             s.exp = exp(depth + 1);
-            want(RIGHT);
+            want(peek() == RIGHT);
             enter(depth + 1);
             s.sub = fault == 0 ? statement(depth + 1, s) : null;
             if (isIf && peek() == W_ELSE) {
-                take();
+                want(true);
                 enter(depth + 1);
                 s.otherwise = fault == 0 ? statement(depth + 1, s) : null;
             }
-        }
-
-        /** A local, an S with =, or an exp alone. */
-        private void plain(Stat s, int depth) {
-            int c = peek();
-            if (c == W_INT || c == W_BOOL || c == NAME && peekBehind() == NAME) {
-                s.kind = S_LOCAL;
-                int typeTok = at;
-                takeType();
-                s.local = p.newDecl(D_LOCAL, at);
-                s.local.owner = member;
-                s.local.typeTok = typeTok;
-                s.local.stat = s;
-                takeName(false);
-                want(GETS);
-                s.exp = exp(depth);
-            } else {
-                s.kind = S_EXP;
-                s.exp = exp(depth);
-                if (peek() == GETS) {
-                    s.kind = S_GETS;
-                    take();
-                    if (s.exp != null) {
-                        s.exp.isTarget = true;
-                    }
-                    s.value = exp(depth);
-                }
-            }
-            want(SEMI);
         }
 
         // Exps. Every exp is made behind its parts, so that a program's exps need no recursion any more.
@@ -1590,7 +1553,7 @@ public final class RefactorHouse {
                 waiting[waits] = e;
                 operators[waits] = at;
                 waits++;
-                take();
+                want(true);
                 e = unary(depth);
             }
             e = joined(e, ground, 0);
@@ -1621,7 +1584,12 @@ public final class RefactorHouse {
         }
 
         private Exp newExp(int kind, int first, int tok, Exp left) {
-            Exp e = p.newExp(kind);
+            int i = Math.min(p.expCount, p.exps.length - 1);
+            if (p.exps[i] == null) {
+                p.exps[i] = new Exp();
+            }
+            Exp e = p.exps[i];
+            e.reset(i, kind);
             e.first = first;
             e.last = at - 1;
             e.tok = tok;
@@ -1631,6 +1599,7 @@ public final class RefactorHouse {
             }
             e.stat = stat;
             e.member = member;
+            p.expCount = i + 1;
             return e;
         }
 
@@ -1640,7 +1609,7 @@ public final class RefactorHouse {
             if (c != MINUS && c != NOT) {
                 return operand(depth);
             }
-            take();
+            want(true);
             enter(depth + 1);
             Exp part = fault == 0 ? unary(depth + 1) : null;
             Exp e = newExp(UNARY, first, first, part);
@@ -1651,9 +1620,9 @@ public final class RefactorHouse {
         private Exp operand(int depth) {
             Exp e = simple(depth);
             for (int n = 0; n < MANY && peek() == DOT; n++) {
-                take();
+                want(true);
                 int tok = at;
-                want(NAME);
+                want(peek() == NAME);
                 int first = e == null ? tok : e.first;
                 e = peek() == LEFT ? call(first, tok, e, depth) : newExp(FIELD_OF, first, tok, e);
             }
@@ -1665,30 +1634,37 @@ public final class RefactorHouse {
             int c = peek();
             switch (c) {
                 case NUMBER: case W_TRUE: case W_FALSE: case W_NULL: case W_THIS: case W_READ:
-                    take();
+                    want(true);
                     Exp e = newExp(c, tok, tok, null);
                     e.value = c == NUMBER ? valueOf(tok) : 0;
                     return e;
                 case NAME:
-                    take();
+                    want(true);
                     return peek() == LEFT ? call(tok, tok, null, depth) : newExp(NAME, tok, tok, null);
                 case DOLLAR:
-                    return dollar();
+                    want(true);
+                    if (mayType && peek() == COLON) {
+                        want(true);
+                        want(isTypeAtHand());
+                    }
+                    Exp any = newExp(DOLLAR, tok, tok, null);
+                    any.value = p.byteAt(p.at[tok] + 1) - 'a';
+                    return any;
                 case W_NEW:
-                    take();
+                    want(true);
                     int name = at;
-                    want(NAME);
-                    want(LEFT);
-                    want(RIGHT);
+                    want(peek() == NAME);
+                    want(peek() == LEFT);
+                    want(peek() == RIGHT);
                     return newExp(W_NEW, tok, name, null);
                 case LEFT:
-                    take();
+                    want(true);
                     enter(depth + 1);
                     Exp inner = fault == 0 ? exp(depth + 1) : null;
-                    want(RIGHT);
+                    want(peek() == RIGHT);
                     return newExp(PAREN, tok, tok, inner);
                 default:
-                    reject();
+                    want(false);
                     return null;
             }
         }
@@ -1705,7 +1681,7 @@ public final class RefactorHouse {
             Exp arg = null;
             Exp last = null;
             int args = 0;
-            want(LEFT);
+            want(peek() == LEFT);
             enter(depth + 1);
             boolean more = peek() != RIGHT;
             for (int n = 0; n < MANY && more && fault == 0; n++) {
@@ -1719,29 +1695,15 @@ public final class RefactorHouse {
                 args++;
                 more = peek() == COMMA;
                 if (more) {
-                    take();
+                    want(true);
                 }
             }
-            want(RIGHT);
+            want(peek() == RIGHT);
             Exp e = newExp(CALL, first, tok, left);
             e.arg = arg;
             e.args = args;
             if (left == null && arg != null) {
                 e.lo = arg.lo;
-            }
-            return e;
-        }
-
-        /** A $ with its letter, and what type it has, if one is told. */
-        private Exp dollar() {
-            int tok = at;
-            take();
-            Exp e = newExp(DOLLAR, tok, tok, null);
-            e.value = p.byteAt(p.at[tok] + 1) - 'a';
-            if (mayType && peek() == COLON) {
-                take();
-                takeType();
-                e.last = at - 1;
             }
             return e;
         }
@@ -1768,7 +1730,11 @@ public final class RefactorHouse {
                 lookAtMembers();
             }
             if (p.error == 0) {
-                lookAtExps();
+                // Parts stand ahead of what they are parts of.
+                for (int i = 0; i < p.expCount; i++) {
+                    Exp e = p.exps[i];
+                    e.type = e.member == null ? T_FAULTY : typeOf(e);
+                }
                 lookAtStatements();
                 lookAtTellings();
             }
@@ -1890,13 +1856,6 @@ public final class RefactorHouse {
         }
 
         // Exps. What is at fault has the type T_FAULTY, and so has all in which it stands, without another ERROR.
-
-        private void lookAtExps() {
-            for (int i = 0; i < p.expCount; i++) {
-                Exp e = p.exps[i];
-                e.type = e.member == null ? T_FAULTY : typeOf(e);
-            }
-        }
 
         private int typeOf(Exp e) {
             switch (e.kind) {
@@ -2724,17 +2683,11 @@ public final class RefactorHouse {
             f[STAT] = s.index;
             f[AT] = 0;
             f[LAST] = -1;
-            if (!step()) {
-                return;
-            }
-            if (s.kind == S_WHILE) {
-                tryAgain(s, f);
-            } else if (s.kind == S_GETS) {
+            // A while is a STEP, and so is its first trial.
+            boolean goesOn = step() && (s.kind != S_WHILE || step());
+            if (goesOn && s.exp != null) {
                 f[AT] = s.exp.lo;
-                f[LAST] = s.value.index;
-            } else if (s.exp != null) {
-                f[AT] = s.exp.lo;
-                f[LAST] = s.exp.index;
+                f[LAST] = s.kind == S_GETS ? s.value.index : s.exp.index;
             }
         }
 
@@ -2847,7 +2800,7 @@ public final class RefactorHouse {
     /** EDITS of a program, and THE NEW PROGRAM that they make. */
     private static final class Edits {
         /** One byte more in a FILE comes to too many, and need not be kept. */
-        private static final int KEPT = FILES * (FILE_BYTES + 1);
+        private static final int KEPT = FILES * (FILE_BYTES + 2) + 2;
 
         final int[] place = new int[ALL_TOKENS + 8];
         final int[] gone = new int[ALL_TOKENS + 8];
@@ -2889,23 +2842,23 @@ public final class RefactorHouse {
             count++;
         }
 
+        /** A byte, and the PLACE of which it is a COPY, or NO; a blank ahead where it would run into a word. */
         void comes(int b, int from) {
-            if (used == start[count] && isLetterOrDigit(b) && place[count] % FILE_PLACES > 0
-                && isLetterOrDigit(p.byteAt(place[count] - 1))) {
-                keep(' ', NO);
-            }
-            keep(b, from);
-        }
-
-        private void keep(int b, int from) {
             int f = place[count] / FILE_PLACES;
-            if (f < 0 || f >= FILES || came[f] > FILE_BYTES || used >= KEPT) {
+            if (f < 0 || f >= FILES || came[f] > FILE_BYTES || used + 1 >= KEPT) {
                 return;
             }
-            came[f]++;
+            if (used == start[count] && isLetterOrDigit(b) && place[count] % FILE_PLACES > 0
+                && isLetterOrDigit(p.byteAt(place[count] - 1))) {
+                bytes[used] = ' ';
+                copied[used] = NO;
+                used++;
+                came[f]++;
+            }
             bytes[used] = (byte) b;
             copied[used] = from;
             used++;
+            came[f]++;
         }
 
         void words(String s) {
@@ -2936,10 +2889,10 @@ public final class RefactorHouse {
         /** A COPY for an exp: in ( ) unless it is one token. */
         void copyAsExp(int from, int to) {
             if (from == to) {
-                copyTokens(from, to);
+                copy(p.at[from], p.endOf(to));
             } else {
                 words("(");
-                copyTokens(from, to);
+                copy(p.at[from], p.endOf(to));
                 words(")");
             }
         }
@@ -2953,10 +2906,12 @@ public final class RefactorHouse {
 
         void typeAnew(int type) {
             Decl c = p.classOf(type);
-            if (c != null) {
-                tokenAnew(p, c.tok, NO);
-            } else {
+            if (c == null) {
                 words(type == T_INT ? "int" : "bool");
+                return;
+            }
+            for (int k = 0; k < p.length[c.tok]; k++) {
+                comes(p.byteAt(p.at[c.tok] + k), NO);
             }
         }
 
@@ -3071,26 +3026,23 @@ public final class RefactorHouse {
             if (!isTapeFine(sort)) {
                 return 2;
             }
-            int broken = ownConditions(sort);
+            int broken;
+            switch (sort) {
+                case RENAME: broken = rename(); break;
+                case PUT_IN_LOCAL: broken = putInLocal(); break;
+                case TAKE_OUT_LOCAL: broken = takeOutLocal(); break;
+                case TAKE_OUT_METHOD: broken = takeOutMethod(); break;
+                case PUT_IN_METHOD: broken = putInMethod(); break;
+                case SHUT_FIELD: broken = shutField(); break;
+                case PULL_UP: broken = moveTo(told.owner.above); break;
+                case PUSH_DOWN: broken = pushDown(); break;
+                case SIGNATURE: broken = signature(); break;
+                case MOVE: broken = moveStatic(); break;
+                case DROP: broken = drop(); break;
+                default: broken = turnIf(); break;
+            }
             edits.sort();
             return broken;
-        }
-
-        private int ownConditions(int sort) {
-            switch (sort) {
-                case RENAME: return rename();
-                case PUT_IN_LOCAL: return putInLocal();
-                case TAKE_OUT_LOCAL: return takeOutLocal();
-                case TAKE_OUT_METHOD: return takeOutMethod();
-                case PUT_IN_METHOD: return putInMethod();
-                case SHUT_FIELD: return shutField();
-                case PULL_UP: return moveTo(told.owner.above);
-                case PUSH_DOWN: return pushDown();
-                case SIGNATURE: return signature();
-                case MOVE: return moveStatic();
-                case DROP: return drop();
-                default: return turnIf();
-            }
         }
 
         /** Finds what the change is of. */
@@ -3719,16 +3671,9 @@ public final class RefactorHouse {
         /** The first of conditions 20 to 22 that is broken, or 0. */
         int soundness(Reader reader, Judge judge, Prog next) {
             edits.make(next);
-            reader.start(next);
-            for (int f = 0; f < FILES; f++) {
-                if (next.size[f] > FILE_BYTES) {
-                    where = f * FILE_PLACES;
-                    return 20;
-                }
-                if (reader.readFile(next, f, CLASSES) != 0) {
-                    where = reader.faultPlace;
-                    return 20;
-                }
+            if (reader.readProgram(next, 0, CLASSES) != 0) {
+                where = reader.faultPlace;
+                return 20;
             }
             judge.look(next);
             if (next.error != 0) {

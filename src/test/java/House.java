@@ -5,7 +5,6 @@ public final class House {
     static int wrong = 0;
     static int asked = 0;
     final RefactorHouse h = new RefactorHouse();
-    private int onTape = 0;
 
     static void due(String what, long got, long want) {
         asked++;
@@ -72,13 +71,7 @@ public final class House {
         if (n > b.length) {
             h.cut(n - b.length);
         }
-        onTape = b.length;
         return this;
-    }
-
-    void clearTape() {
-        h.cut(onTape);
-        onTape = 0;
     }
 
     int load(int f, String text) {
