@@ -1457,7 +1457,7 @@ public final class RefactorHouse {
                     want(peek() == SEMI);
                     break;
                 default:
-                    begin(s);
+                    readFront(s);
                     s.exp = exp(depth);
                     if (s.kind == S_EXP && s.exp != null && peek() == GETS) {
                         s.kind = S_GETS;
@@ -1474,7 +1474,7 @@ public final class RefactorHouse {
         }
 
         /** What stands in front of the exp of a local; nothing in front of an exp alone. */
-        private void begin(Stat s) {
+        private void readFront(Stat s) {
             int c = peek();
             boolean isName = c == NAME && at + 1 < p.tokens && p.code[at + 1] == NAME;
             if (c != W_INT && c != W_BOOL && !isName) {
