@@ -288,6 +288,8 @@ public final class ChangesTest {
         done(4, "", "class A { static int s; static bool @m(bool a) { return !a || A.s == 1; } } class B { void n() { print "
             + "A.m(true); print A . m ( 1 < 2 ) == false; } }", "class A { static int s;  } class B { void n() { print "
             + "(!true || A.s == 1); print (!(1 < 2) || A.s == 1) == false; } }");
+        done(4, "", "class A { int @m(int a) { return 1 + a; } void n(int b) { print m(b * 2); n(read); } }",
+            "class A {  void n(int b) { print (1 + (b * 2)); n(read); } }");
         // What its exp means must be known where it comes.
         broken(4, "", "class A { static int s; static int @m() { return ~s; } } class B { void n() { print A.m(); } }", 20,
             "class A { static int s;  } class B { void n() { print (");
@@ -347,6 +349,7 @@ public final class ChangesTest {
         broken(8, "0", "class A { void m(int a, int b) { } } class B extends A { void @m(int c, int d) { print ~d; } }", 4);
         broken(8, "10", "class A { void @m(int a, int b) { } void n() { m(1, 2); m(3, ~4 + read); } }", 5);
         broken(8, "", "class A { void @m(int a) { } void n() { m(1); new A().m(~new A().f); } int f; }", 5);
+        done(8, "", "class A { void @m(int a) { } void n(int b) { m(1); n(read); } }", "class A { void m() { } void n(int b) { m(); n(read); } }");
         done(8, "20", "class A { void @m( int a , bool b,A c // see\n) { print a; } void n() { m(1 + 2, true, null); this.m ( 3,false , this ) ; } }",
             "class A { void m(A c, int a) { print a; } void n() { m(null, 1 + 2); this.m (this, 3) ; } }");
         done(8, "", "class A { void @m(int a) { } void n() { m(1); } }", "class A { void m() { } void n() { m(); } }");

@@ -19,6 +19,16 @@ public final class ErrorsTest {
         House x = House.of(House.bare(marked));
         House.due("judge of " + marked, x.told(x.h.judge()), error + "@" + House.marks(marked)[0]);
         House.due("again", x.told(x.h.judge()), error + "@" + House.marks(marked)[0]);
+        House.due("means what ahead of ERRORS", x.h.means(6, 2), -1);
+        House.due("count what ahead of ERRORS", x.h.count(5), -1);
+        House.due("count what ahead of ERRORS", x.h.count(-1), -1);
+        House.due("told what ahead of ERRORS", x.h.told(5, 0), -1);
+        House.due("told what ahead of ERRORS", x.h.told(-1, 0), -1);
+        House.due("run which ahead of ERRORS", x.h.run(2), -1);
+        House.due("ask sort ahead of ERRORS", x.h.ask(12, 6, 0), -1);
+        House.due("twin n ahead of ERRORS", x.h.twin(0, 1), -1);
+        House.due("alike n ahead of ERRORS", x.h.alike(4), -1);
+        House.due("token for all ERRORS", x.h.token(0, 0), 5);
         House.due("means with ERRORS", x.h.means(6, 0), -2);
         House.due("count with ERRORS", x.h.count(0), -2);
         House.due("told with ERRORS", x.h.told(0, 99), -2);
@@ -196,6 +206,8 @@ public final class ErrorsTest {
         error("class A { int m() { return @v(); } void v() { } }", 7);
         error("class A { A m() { return @null == null; } }", 7);
         fine("class A { A m() { return null; } A n() { return new B(); } } class B extends A { }");
+        fine("class B extends A { A m() { return new B(); } } class A extends C { C n() { return new B(); } } class C { }");
+        error("class B extends A { B m() { return @new A(); } } class A { }", 7);
     }
 
     private static void calls() {

@@ -110,6 +110,22 @@ public final class FaultsTest {
             }
         }
         House.due("all tokens", k, want.length);
+        String words = "class extends static int bool void if else while return print read new this null true false";
+        int p = 0;
+        for (String w : words.split(" ")) {
+            House y = House.of("class " + w + "x { } class x" + w + " { }");
+            House.due("a NAME " + w + "x", y.h.token(6, 1), 1);
+            House.due("a NAME x" + w, y.h.token(18 + w.length(), 1), 1);
+            p++;
+        }
+        House.due("17 WORDS", p, 17);
+        House y = House.of("class A extends B { static void m(bool b) { if (b) print read; else while (false) return; } "
+            + "A f = new A(); bool g = this == null || true; int h; } class B { }");
+        int seen = 0;
+        for (int i = 0; i < y.h.size(0); i++) {
+            seen += y.h.token(i, 1) == 3 ? 1 : 0;
+        }
+        House.due("WORDS in it", seen, 19);
         House.due("token what", x.h.token(20000, 2), -1);
         House.due("token what ahead of NO", x.h.token(5, -1), -1);
         House.due("token nowhere", x.h.token(-20000, 0), -2);

@@ -99,6 +99,17 @@ public final class HistoryTest {
         House.due("numbers", x.numbers(), "2");
         House.due("STEPS", x.h.ran(1), 4);
         House.due("the program stays", x.h.size(0) == TURN.length() ? 1 : 0, 0);
+        // Whatever else was asked since, it is the program ahead of the step that is run.
+        House.due("another change", x.ask(0, 6, 0, "Other"), 0);
+        House.due("run ahead", x.h.run(1), 0);
+        House.due("STEPS", x.h.ran(1), 4);
+        House.due("a FAULT", x.load(0, "class A { } ?"), -11);
+        House.due("run ahead", x.h.run(1), 0);
+        House.due("STEPS", x.h.ran(1), 4);
+        House.due("another change", x.ask(0, 6, 0, "Other"), 0);
+        House.due("twin", x.h.twin(4, 4), 4);
+        House.due("the change stays", x.h.edits(), 1);
+        House.due("run", x.h.run(1), 0);
         House.due("undo", x.h.undo(), 0);
         House.due("the run stays", x.h.ran(1), 4);
         House.due("no step that is not undone", x.h.run(1), -2);

@@ -64,6 +64,8 @@ public final class RecipesTest {
         House.due("20 nests", x.told(x.recipe(House.times(20, "(") + "$x" + House.times(20, ")") + " -> " + House.times(20, "-") + "1")), "0");
         // 4 and 5: the first by its place.
         fault("$x -> $x + @$y", 4);
+        fault("1 -> @$a", 4);
+        fault("$b -> $b + @$z", 4);
         fault("$x + @$x:int -> $x", 4);
         fault("$x:int + @$x:int -> $x", 4);
         fault("$x:@C -> $y", 5);
@@ -178,6 +180,8 @@ public final class RecipesTest {
         in("$x + $x -> 2 * $x", "print @1 + x + (1 + x~); print 01 + 1; print @a.f + a . // f\n ~f;");
         in("g($x, $x) + $y * $x -> $y", "print @g(x, (x)) + 7 * ~x; print g(x, y) + 7 * x; print g(x, x) + 7 * y;");
         in("$x:int == $x -> true", "print @x == ~x; print a == a; print q == q;");
+        in("$a + $a -> 2 * $a", "print @x + ~x; print x + y; print @y + ~y;");
+        in("$z + $z -> 2 * $z", "print @x + ~x; print x + y; print @y + ~y;");
     }
 
     /** What PUT makes of a program. */

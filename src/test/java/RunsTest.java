@@ -263,6 +263,15 @@ public final class RunsTest {
         House x = run("class M { static void main() { print 3; print 4; } }", 0, "3 4");
         House.due("FAULT", x.load(0, "class"), -12);
         House.due("the run stays", x.numbers(), "3 4");
+        House y = run("class M { static void main() { if (read == 0) print 1; else { print 2; print 3; print 4; } } }", 0, "1");
+        y.h.input(5);
+        y.h.run(0);
+        House.due("three numbers", y.numbers(), "2 3 4");
+        y.h.drain();
+        y.h.run(0);
+        House.due("one number", y.h.number(0), 1);
+        House.due("one number", y.h.number(1), 0);
+        House.due("one number", y.h.number(2), 0);
         x.load(1, "class A { int f = true; }");
         House.due("no run since", x.h.ran(0), -2);
         House.due("ERRORS", x.h.run(0), -2);
