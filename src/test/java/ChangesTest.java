@@ -116,6 +116,17 @@ public final class ChangesTest {
         House.due("text", x.text(0), "class A { int h; }");
         House.due("edits are no more", x.h.edits(), 0);
         House.due("not done again", x.h.apply(), -2);
+        // What is asked or run in between does not spoil a SOUND change, however much was asked before.
+        for (int i = 0; i < 300; i++) {
+            House.due("ask", x.ask(0, 14, 0, "abcdefghijkl"), 0);
+        }
+        House.due("a FAULT", x.load(0, "class Zzz { } ?"), -11);
+        House.due("run", x.h.run(1), 7);
+        House.due("twin", x.h.twin(2, 2), 2);
+        House.due("edits", x.h.edits(), 1);
+        House.due("edit", x.edit(0), "14-1:abcdefghijkl");
+        House.due("done", x.h.apply(), 2);
+        House.due("text", x.text(0), "class A { int abcdefghijkl; }");
         x.load(0, "class A { X f; }");
         x.tape("g");
         House.due("ERRORS", x.h.ask(0, 6, 0), -2);
@@ -181,6 +192,8 @@ public final class ChangesTest {
             "class A { void m(int p) { while (p < 3) { int b = 1; {  print b; } } } }");
         done(1, "", "class A { void m() { int @a = -(1); { print(a); } } }",
             "class A { void m() {  { print((-(1))); } } }");
+        done(1, "", "class A { int f; A g; void m(int p, int r) { int @a = p; f = 3; g.f = 4; r = 5; print a; } }",
+            "class A { int f; A g; void m(int p, int r) {  f = 3; g.f = 4; r = 5; print p; } }");
         // A blank where the bytes would run together; remarks in a COPY come along.
         done(1, "", "class A { int m() { int @a = 7; int b = 1;return(a)+b; } }", "class A { int m() {  int b = 1;return(7)+b; } }");
         done(1, "", "class A { int m() { int @a = 1 + // one\n 2; return a; } }", "class A { int m() {  return (1 + // one\n 2); } }");
@@ -276,6 +289,8 @@ public final class ChangesTest {
         broken(4, "", "class A { void @m() { return; } }", 3);
         broken(4, "", "class A { int @m() { { return 1; } } }", 3);
         broken(4, "", "class A { int @m() { print 1; return 1; } }", 3);
+        broken(4, "", "class A { int @m() { return 1; print 1; } }", 3);
+        broken(4, "", "class A { int @m() { return 1; return 2; } }", 3);
         broken(4, "", "class A { int @m() { return 1; } } class B extends A { int m() { return 2; } }", 4);
         broken(4, "", "class A { int @m(int a) { return m(a); } }", 5);
         broken(4, "", "class A { int f; int @m(int a) { return a; } void n() { print m(1); print m(~2 + f); } }", 6);
@@ -382,6 +397,8 @@ public final class ChangesTest {
         broken(9, "B", "class A { static int @f; void m(int B) { print f; } } class B { }", 20,
             "class A {  void m(int B) { print ");
         broken(9, "B", "class A { static int @f; } class B { int f; }", 20, "class A {  } class B { int f; static int ");
+        done(9, "Bee", "class Be { } class Abcdefghijkl { static int @f; } class Beee { } class Bee { }",
+            "class Be { } class Abcdefghijkl {  } class Beee { } class Bee { static int f; }");
         House x = House.of("class A { static int f; int g = f; } class B { }");
         House.due("ask", x.ask(9, 21, 0, "B"), 0);
         House.due("edits", x.h.edits(), 3);

@@ -280,6 +280,10 @@ public final class ErrorsTest {
         in("print (1 == @x) + 1;", 6);
         in("print 1 == (@true + 1);", 7);
         in("while (1 + @x) v();", 6);
+        in("print -@true && q;", 7);
+        in("print 1 + @true && q;", 7);
+        in("print 1 == @q && p;", 7);
+        in("q = 1 + @v().f;", 7);
         // What stands beside it and is at fault itself.
         in("print @true + x;", 7);
         in("print @1 && x;", 7);

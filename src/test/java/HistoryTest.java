@@ -161,12 +161,25 @@ public final class HistoryTest {
         y.h.run(0);
         y.load(1, "class Q { int f = true; }");
         House.due("ERRORS", y.h.twin(1, 1), -2);
+        twinsDiffer("class M { static void main() { print 1; int x = 6 / 2; } }", "2 -> 0");
+        twinsDiffer("class M { static void main() { int i = 0; while (i < 2) { i = i + 1; print 8; } } }", "2 -> 3");
+        twinsDiffer("class M { static void main() { print 1; print 2; } }", "2 -> 3");
+        twinsDiffer("class M { static void main() { print 1; M m = null; m.k(3 / 2); } void k(int a) { } }", "2 -> 0");
         // Another FAIL, or none, is a difference, too.
         House z = House.of("class M { static void main() { print 6 / 2; } }");
         House.due("recipe", z.recipe("2 -> 0"), 1);
         House.due("put", z.h.put(), 0);
         House.due("apply", z.h.apply(), 1);
         House.due("twin", z.h.twin(5, 1), 0);
+    }
+
+    /** The FAIL alone, how many numbers alone, or one number alone is another one. */
+    private static void twinsDiffer(String text, String recipe) {
+        House z = House.of(text);
+        House.due("recipe", z.recipe(recipe), 1);
+        House.due("put", z.h.put(), 0);
+        House.due("apply", z.h.apply(), 1);
+        House.due("twin of " + text, z.h.twin(5, 1), 0);
     }
 
     /** How often from the first time on the first of the eight inputs is not below 0. */

@@ -212,6 +212,16 @@ public final class RunsTest {
             + "static void main() { } }", 3, "");
         failsAt("class M { static int i; static int f() { while (i < 9997) i = i + 1; return 1; } static int s = f(); "
             + "static void main() { print 1; @print 2; } }", 3, "1");
+        House again = run("class M { static int s; static M m; static void main() { s = s + 1; print s; print m == null; "
+            + "m = new M(); } }", 0, "1 1");
+        again.h.run(0);
+        House.due("static fields are 0 at first each time", again.numbers(), "1 1");
+        // The 20001st STEP is a new, or a call: then it is not done.
+        x = failsAt("class M { static int i; static void main() { while (i < 9998) i = i + 1; @M m = new M(); print 1; } }", 3, "");
+        House.due("objects", x.h.ran(2), 0);
+        failsAt("class M { static int i; static void f() { print 2; } static void main() { while (i < 9998) i = i + 1; @f(); } }", 3, "");
+        x = failsAt("class M { static int i; static M s; void f() { } static void main() { while (i < 9998) i = i + 1; @s.f(); } }", 1, "");
+        House.due("null is looked for ahead of the STEP", x.h.ran(1), 20000);
         // A call or new within 40 others.
         failsAt("class M { static void f(int n) { if (n > 0) f(n - 1); } static void main() { f(38); print 1; } }", 0, "1");
         failsAt("class M { static void f(int n) { if (n > 0) @f(n - 1); } static void main() { f(39); print 1; } }", 4, "");
