@@ -340,6 +340,7 @@ public final class RecipesTest {
         alikeAt(5, "v(a, b); v(b, a);");
         alikeAt(7, "@v(a, b); @v(b, a);", 0, 1);
         alikeAt(7, "@v(a, b); @v(f, g);", 0, 1);
+        alike(5, "class A { int m(int a) { print a + 1; return a + 1; } int n(int b) { return b + 1; } }", "38=69");
         // Three of them are three pairs, by the first run and then the second one.
         alikeAt(5, "@print a + b; { @print f + g; } if (a == b) { @print b + a; }", 0, 1, 0, 2, 1, 2);
         // S by S: several, in one block, that do not overlap.

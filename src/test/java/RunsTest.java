@@ -102,6 +102,11 @@ public final class RunsTest {
         // Params are values; a local of a loop is told anew each time.
         run("class M { static int f(int a, int b) { a = a + b; int c = a * 2; return c; } static void main() { int a = 1; "
             + "print f(a, 2); print a; while (a < 3) { int x = a; a = a + 1; print x; } int x = 9; print x; } }", 0, "6 1 1 2 9");
+        run("class M { static void v() { } static int w() { return 9; } static void main() { int x = 5; v(); v(); print 1 + x; w(); "
+            + "w(); v(); int y = 7; v(); w(); print x * 100 + y; } }", 0, "6 507");
+        run("class A { A me() { return this; } bool is(A a) { return a == this; } A b; void set() { b = this; } } class M { "
+            + "static void main() { A a = new A(); A c = new A(); print a.me() == a; print c.is(a); print c.is(c); c.set(); "
+            + "print c.b == c; print c.b.me() == a; } }", 0, "1 0 1 1 0");
         run("class M { static int fac(int n) { if (n < 2) return 1; return n * fac(n - 1); } static int fib(int n) { "
             + "if (n < 2) return n; else return fib(n - 1) + fib(n - 2); } static void main() { print fac(10); print fib(10); "
             + "print 1 + 2 * fac(3) - fib(6) * 2; } }", 0, "3628800 55 -3");
