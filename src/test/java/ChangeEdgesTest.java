@@ -23,6 +23,7 @@ public final class ChangeEdgesTest {
         condition21();
         condition22();
         edits();
+        wideEdits();
         history();
         House.end("ChangeEdgesTest");
     }
@@ -872,6 +873,34 @@ public final class ChangeEdgesTest {
         for (int i = 0; i < all.length; i++) {
             House.due("EDIT " + i, y.edit(i), all[i]);
         }
+    }
+
+    /** As much as can come: in four FILES, each of them full behind the change. */
+    private static void wideEdits() {
+        House x = new House();
+        int[] uses = new int[4];
+        for (int f = 0; f < 4; f++) {
+            String head = "class A" + f + (f == 0 ? " { static int f; int g = f" : " extends A0 { int g" + f + " = f");
+            int most = (3000 - head.length() - 14 - (f == 0 ? 11 : 0)) / 13;
+            uses[f] = 1 + most + (f == 0 ? 1 : 0);
+            House.due("load", x.load(f, head + House.times(most, "+f") + "; }") > 0 ? 1 : 0, 1);
+        }
+        int all = uses[0] + uses[1] + uses[2] + uses[3];
+        House.due("uses", x.h.uses(22), all);
+        House.due("rename", x.told(x.ask(0, 22, 0, "abcdefghijkl")), "0");
+        House.due("EDITS", x.h.edits(), all);
+        for (int i = 0; i < all; i++) {
+            House.due("EDIT " + i, x.edit(i).replaceFirst("^[0-9]+", ""), "-1:abcdefghijkl");
+        }
+        House.due("apply", x.h.apply(), 1);
+        for (int f = 0; f < 4; f++) {
+            House.due("full FILE " + f, x.h.size(f) > 2980 ? 1 : 0, 1);
+            House.due("NAMES in FILE " + f, x.text(f).split("abcdefghijkl", -1).length - 1, uses[f]);
+        }
+        House.due("judge", x.h.judge(), 0);
+        House.due("uses", x.h.uses(22), all);
+        House.due("undo", x.h.undo(), 0);
+        House.due("uses", x.h.uses(22), all);
     }
 
     // Promises 26 to 28.
