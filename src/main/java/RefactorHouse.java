@@ -2796,7 +2796,6 @@ public final class RefactorHouse {
         }
     }
 
-
     /** EDITS of a program, and THE NEW PROGRAM that they make. */
     private static final class Edits {
         /** One byte more in a FILE comes to too many, and need not be kept. */
